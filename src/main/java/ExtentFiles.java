@@ -26,7 +26,7 @@ public final class ExtentFiles {
     // The root is in no entry and open at no handle, so there its number can stand for none.
     private static final int NO_THING = 0;
 
-    private static final int LATEST_CRASH_KIND = 4;
+    private static final int GREATEST_CRASH_KIND = 4;
     private static final int CRASH_AFTER_SAVING = 2;
 
     private final int[] kinds = new int[THINGS];
@@ -263,7 +263,7 @@ public final class ExtentFiles {
     }
 
     public int crash(int kind, int steps) {
-        if (kind < 0 || kind > LATEST_CRASH_KIND) {
+        if (kind < 0 || kind > GREATEST_CRASH_KIND) {
             return BAD;
         }
         // A saving that is cut short saves nothing, and coming up twice is as coming up once.
