@@ -1,5 +1,5 @@
-import java.util.ArrayList;
 import java.util.List;
+import java.util.function.Supplier;
 import java.util.function.ToIntFunction;
 
 /**
@@ -58,12 +58,8 @@ public final class NothingChangesTest {
         Due.end();
     }
 
-    private interface World {
-        ExtentFiles build();
-    }
-
     /** Directories 1, 3 (in 1) and 4, file 2 with two links, file 5 open without links; 1, 2 and 3 are saved, as they were. */
-    private static World busyWorld() {
+    private static Supplier<ExtentFiles> busyWorld() {
         return () -> {
             ExtentFiles x = new ExtentFiles();
             x.make(0, 1, true);
@@ -83,7 +79,7 @@ public final class NothingChangesTest {
         };
     }
 
-    private static World fullWorld() {
+    private static Supplier<ExtentFiles> fullWorld() {
         return () -> {
             ExtentFiles x = new ExtentFiles();
             x.make(0, 0, false);
@@ -95,7 +91,7 @@ public final class NothingChangesTest {
         };
     }
 
-    private static World manyThings() {
+    private static Supplier<ExtentFiles> manyThings() {
         return () -> {
             ExtentFiles x = new ExtentFiles();
             for (int i = 1; i < 12; i++) {
@@ -105,58 +101,18 @@ public final class NothingChangesTest {
         };
     }
 
-    private static void refused(String what, World world, ToIntFunction<ExtentFiles> call, int due) {
-        Due.due(what, call.applyAsInt(world.build()), due);
+    private static void refused(String what, Supplier<ExtentFiles> world, ToIntFunction<ExtentFiles> call, int due) {
+        Due.due(what, call.applyAsInt(world.get()), due);
         unchanged(what, world, call);
     }
 
-    private static void unchanged(String what, World world, ToIntFunction<ExtentFiles> call) {
-        ExtentFiles touched = world.build();
-        call.applyAsInt(touched);
-        List<Integer> got = allAnswers(touched);
-        List<Integer> due = allAnswers(world.build());
+    private static void unchanged(String what, Supplier<ExtentFiles> world, ToIntFunction<ExtentFiles> call) {
+        List<Integer> due = Answers.of(world);
+        List<Integer> got = Answers.of(() -> {
+            ExtentFiles touched = world.get();
+            call.applyAsInt(touched);
+            return touched;
+        });
         Due.due("that '" + what + "' changes nothing", got.equals(due));
-    }
-
-    private static List<Integer> allAnswers(ExtentFiles x) {
-        List<Integer> answers = new ArrayList<>();
-        presentAnswers(x, answers);
-        answers.add(x.crash(0, 0));
-        presentAnswers(x, answers);
-        return answers;
-    }
-
-    private static void presentAnswers(ExtentFiles x, List<Integer> answers) {
-        for (int h = 0; h < 4; h++) {
-            answers.add(x.opened(h));
-        }
-        for (int thing = 0; thing < 12; thing++) {
-            int kind = x.kind(thing);
-            answers.add(kind);
-            answers.add(x.links(thing));
-            if (kind == 1) {
-                fileAnswers(x, thing, answers);
-            } else if (kind == 2) {
-                directoryAnswers(x, thing, answers);
-            }
-        }
-    }
-
-    private static void fileAnswers(ExtentFiles x, int file, List<Integer> answers) {
-        int length = x.length(file);
-        answers.add(length);
-        answers.add(x.sum(file));
-        for (int at = 0; at < length; at++) {
-            answers.add(x.read(file, at));
-        }
-    }
-
-    private static void directoryAnswers(ExtentFiles x, int dir, List<Integer> answers) {
-        int name = x.next(dir, -1);
-        while (name >= 0) {
-            answers.add(name);
-            answers.add(x.find(dir, name));
-            name = x.next(dir, name);
-        }
     }
 }
