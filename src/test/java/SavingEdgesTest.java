@@ -155,6 +155,19 @@ public final class SavingEdgesTest {
             .each("length(?) = 48", 2, 4, 6, 8, 10)
             .each("read(?, 47) = 52", 2, 4, 6, 8, 10)
             .row("links(2) = 10", "count(0) = 11", "count(11) = 9", "find(11, 55) = 2", "find(11, 63) = 2");
+        Rows files = new Rows("crash: 11 files of 48 cells come through");
+        for (int file = 1; file < 12; file++) {
+            files.row("make(0, " + (52 + file) + ", false) = " + file, "fill(" + file + ", 0, 48, " + 100 * file + ") = 48");
+        }
+        files.row("sync() = 12");
+        for (int file = 1; file < 12; file++) {
+            files.row("cut(" + file + ", " + file % 3 + ") = 48");
+        }
+        files.row("read(11, 47) = 0", "savedRead(11, 0) = 1100", "savedRead(11, 47) = 1147", "crash(0, 0) = 12");
+        for (int file = 1; file < 12; file++) {
+            files.row("find(0, " + (52 + file) + ") = " + file, "length(" + file + ") = 48")
+                .row("read(" + file + ", 0) = " + 100 * file, "read(" + file + ", 47) = " + (100 * file + 47));
+        }
     }
 
     private static void idleForAnyInt() {
