@@ -45,6 +45,11 @@ public final class SavingEdgesTest {
         new Rows("sync: the last thing has no links").row(Stores.things(11))
             .row("make(0, 60, false) = 11", "fill(11, 0, 48, 7) = 48", "open(2, 11) = 0", "unlink(0, 60) = 0", "sync() = 12")
             .row("savedRead(11, 47) = 0", "crash(3, 9) = 11", "kind(11) = 0", "kind(10) = 1");
+        new Rows("sync: the files on either side of one without links").row("make(0, 0, false) = 1", "make(0, 1, false) = 2")
+            .row("make(0, 2, false) = 3", "fill(1, 0, 48, 100) = 48", "fill(2, 0, 48, 200) = 48", "fill(3, 0, 48, 300) = 48")
+            .row("open(0, 2) = 0", "unlink(0, 1) = 0", "sync() = 4", "savedRead(1, 0) = 100", "savedRead(1, 47) = 147")
+            .row("savedRead(2, 0) = 0", "savedRead(2, 47) = 0", "savedRead(3, 0) = 300", "savedRead(3, 47) = 347")
+            .row("crash(0, 0) = 3", "read(1, 47) = 147", "read(2, 0) = 0", "read(3, 0) = 300", "length(1) = 48", "length(3) = 48");
         new Rows("sync: a file that is open and has links is saved").row("make(0, 0, false) = 1", "fill(1, 0, 2, 5) = 2")
             .row("open(0, 1) = 0", "sync() = 2", "opened(0) = 1", "savedRead(1, 1) = 6", "crash(0, 0) = 2", "read(1, 1) = 6");
     }
